@@ -1,0 +1,111 @@
+import java.nio.charset.StandardCharsets;
+import java.util.concurrent.Callable;
+
+/** What the tests share: counting wrong answers, and objects made of a setup text. */
+final class Checks {
+    private static int checked = 0;
+    private static int wrong = 0;
+
+    private Checks() {
+    }
+
+    static void due(String call, Object got, Object want) {
+        checked++;
+        if (!got.equals(want)) {
+            wrong++;
+            System.out.println(call + " answered " + got + ", due is " + want);
+        }
+    }
+
+    /** What a call answers: its value, or the simple name of the exception that it throws. */
+    static Object answer(Callable<?> call) {
+        try {
+            return call.call();
+        } catch (Exception e) {
+            return e.getClass().getSimpleName();
+        }
+    }
+
+    static void call(String call, Callable<?> what, Object want) {
+        due(call, answer(what), want);
+    }
+
+    static void bounds(String call, Callable<?> what) {
+        call(call, what, "IndexOutOfBoundsException");
+    }
+
+    static void argument(String call, Callable<?> what) {
+        call(call, what, "IllegalArgumentException");
+    }
+
+    static void state(String call, Callable<?> what) {
+        call(call, what, "IllegalStateException");
+    }
+
+    static void unsupported(String call, Callable<?> what) {
+        call(call, what, "UnsupportedOperationException");
+    }
+
+    static void noElement(String call, Callable<?> what) {
+        call(call, what, "NoSuchElementException");
+    }
+
+    /** Appends a text, twenty bytes a call. */
+    static int type(PebbleProofs x, String text) {
+        byte[] bytes = text.getBytes(StandardCharsets.ISO_8859_1);
+        int length = x.append(0, 0, 0, 0, 0);
+        for (int i = 0; i < bytes.length; i += 20) {
+            int[] words = new int[5];
+            for (int k = 0; k < 20 && i + k < bytes.length; k++) {
+                words[k / 4] |= (bytes[i + k] & 255) << (24 - 8 * (k % 4));
+            }
+            length = x.append(words[0], words[1], words[2], words[3], words[4]);
+        }
+        return length;
+    }
+
+    static PebbleProofs made(String text) {
+        PebbleProofs x = new PebbleProofs();
+        x.truncate(0);
+        type(x, text);
+        x.load();
+        return x;
+    }
+
+    static int errorIn(String text) {
+        PebbleProofs x = new PebbleProofs();
+        type(x, text);
+        return x.errorPosition();
+    }
+
+    /** Everything that a call can ask without changing, as one text. */
+    static String view(PebbleProofs x) {
+        StringBuilder all = new StringBuilder();
+        for (int what = 0; what < 6; what++) {
+            all.append(x.count(what)).append(' ');
+        }
+        int vertices = x.count(0);
+        for (int v = 0; v < vertices; v++) {
+            all.append("; ").append(x.pebbles(v)).append(" near");
+            for (int w = 0; w < vertices; w++) {
+                all.append(' ').append(x.isEdge(v, w) ? 1 : 0);
+            }
+        }
+        for (int s = 0; s < x.count(4); s++) {
+            all.append("; strategy for ").append(x.strategy(s, 0, 0));
+            for (int v = 0; v < vertices; v++) {
+                all.append(' ').append(x.strategy(s, v, 1)).append('/').append(x.strategy(s, v, 2));
+            }
+        }
+        return all.toString();
+    }
+
+    static void end() {
+        if (wrong == 0) {
+            System.out.println("all " + checked + " answers are as due");
+        } else {
+            System.out.println(wrong + " of " + checked + " answers are not as due");
+            System.exit(1);
+        }
+    }
+}
