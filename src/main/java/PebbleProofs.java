@@ -165,18 +165,20 @@ public final class PebbleProofs {
 
     public int reach(int target) throws IndexOutOfBoundsException, IllegalStateException {
         needVertex(target);
-        if (!canReach(target)) {
+        FailingPiles piles = failingPilesOf(target);
+        if (piles.holds(board.pile)) {
             refuse(FULL_OR_OUT_OF_REACH);
         }
         history.keep(board);
         int made = 0;
         // Each move loses a pebble, so there are fewer moves than pebbles on a full graph.
-        for (; made < MOST_VERTICES * MOST_PEBBLES && board.pile[target] == 0; made++) {
-            int step = firstMove(target);
+        while (board.pile[target] == 0 && made < MOST_VERTICES * MOST_PEBBLES) {
+            int step = firstMove(piles);
             if (step == NONE) {
                 break;
             }
             board.makeMove(step / 10, step % 10);
+            made++;
         }
         return made;
     }
@@ -303,13 +305,13 @@ public final class PebbleProofs {
 
     public boolean isReachable(int target) throws IndexOutOfBoundsException {
         needVertex(target);
-        return canReach(target);
+        return !failingPilesOf(target).holds(board.pile);
     }
 
     public int reachable() {
         int set = 0;
         for (int target = 0; target < board.vertices; target++) {
-            if (canReach(target)) {
+            if (!failingPilesOf(target).holds(board.pile)) {
                 set |= 1 << target;
             }
         }
@@ -318,10 +320,11 @@ public final class PebbleProofs {
 
     public int next(int target) throws IndexOutOfBoundsException, NoSuchElementException {
         needVertex(target);
-        if (board.pile[target] > 0 || !canReach(target)) {
+        FailingPiles piles = failingPilesOf(target);
+        if (board.pile[target] > 0 || piles.holds(board.pile)) {
             throw new NoSuchElementException("there is no first move");
         }
-        return firstMove(target);
+        return firstMove(piles);
     }
 
     public int fewest(int target)
@@ -508,26 +511,17 @@ public final class PebbleProofs {
             piles = new FailingPiles(target);
             failingPiles[target] = piles;
         }
-        piles.fit(board, workRow);
+        if (!piles.areOf(board)) {
+            piles.collect(board, workRow);
+        }
         return piles;
     }
 
-    private boolean canReach(int target) {
-        // The bound of 999 never stops the vertex that is nearest among those with enough pebbles:
-        // on its way to the target there are at most 16 pebbles on a vertex and 15 more to come.
-        for (int vertex = 0; vertex < board.vertices; vertex++) {
-            if (board.pile[vertex] >> board.apart(vertex, target) > 0) {
-                return true;
-            }
-        }
-        return !failingPilesOf(target).holds(board.pile);
-    }
-
-    /** The first move after which the target can still be reached, NONE if there is none. */
-    private int firstMove(int target) {
+    /** The first move after which a target can still be reached, NONE if there is none. */
+    private int firstMove(FailingPiles piles) {
         for (int vertex = 0; vertex < board.vertices; vertex++) {
             for (int other = 0; other < board.vertices; other++) {
-                if (board.allowsMove(vertex, other) && canReachAfter(vertex, other, target)) {
+                if (board.allowsMove(vertex, other) && !failsAfter(vertex, other, piles)) {
                     return 10 * vertex + other;
                 }
             }
@@ -535,10 +529,10 @@ public final class PebbleProofs {
         return NONE;
     }
 
-    private boolean canReachAfter(int vertex, int other, int target) {
+    private boolean failsAfter(int vertex, int other, FailingPiles piles) {
         board.pile[vertex] -= 2;
         board.pile[other]++;
-        boolean answer = canReach(target);
+        boolean answer = piles.holds(board.pile);
         board.pile[vertex] += 2;
         board.pile[other]--;
         return answer;
@@ -882,7 +876,8 @@ public final class PebbleProofs {
         int worstCount;
         int firstWorst;
         final int[] howMany = new int[MOST_AT_ONCE + 1];
-        private final int[] widths = new int[MOST_VERTICES];
+        // The most pebbles on a vertex with which a pile can fail: all of its bits.
+        private final int[] limits = new int[MOST_VERTICES];
         private final int[] shifts = new int[MOST_VERTICES];
         private final int[] near = new int[MOST_VERTICES];
         private final int[] marks = new int[MARK_WORDS];
@@ -891,31 +886,24 @@ public final class PebbleProofs {
             this.target = target;
         }
 
-        void fit(Board board, int[] row) {
-            if (isMade && vertices == board.vertices && edges == board.edges) {
-                return;
-            }
+        boolean areOf(Board board) {
+            return isMade && vertices == board.vertices && edges == board.edges;
+        }
+
+        private void clear(Board board) {
             isMade = true;
             vertices = board.vertices;
             edges = board.edges;
-            layBits(board);
-            clear();
-            collect(row);
-        }
-
-        private void layBits(Board board) {
-            int bits = 0;
-            for (int vertex = vertices - 1; vertex >= 0; vertex--) {
-                widths[vertex] = board.apart(target, vertex);
-                shifts[vertex] = bits;
-                near[vertex] = board.neighbours(vertex);
-                bits += widths[vertex];
-            }
-        }
-
-        private void clear() {
             Arrays.fill(marks, 0);
             Arrays.fill(howMany, 0);
+            int bits = 0;
+            for (int vertex = vertices - 1; vertex >= 0; vertex--) {
+                int width = board.apart(target, vertex);
+                limits[vertex] = (1 << width) - 1;
+                shifts[vertex] = bits;
+                near[vertex] = board.neighbours(vertex);
+                bits += width;
+            }
         }
 
         private void mark(int code) {
@@ -927,13 +915,22 @@ public final class PebbleProofs {
         }
 
         int pebblesOn(int code, int vertex) {
-            return code >> shifts[vertex] & (1 << widths[vertex]) - 1;
+            return code >> shifts[vertex] & limits[vertex];
         }
 
-        /** For a pile that has fewer than 2 to the power d pebbles on each vertex. */
+        private boolean hasRoom(int code, int vertex) {
+            return (~code >> shifts[vertex] & limits[vertex]) != 0;
+        }
+
+        // The limit of 999 pebbles on a vertex never stops a pile from reaching the target: of the
+        // vertices with more than their limit here the nearest one sends its pebbles on a shortest
+        // path, where each vertex has at most 15 and gets at most 16.
         boolean holds(int[] pile) {
             int code = 0;
             for (int vertex = 0; vertex < vertices; vertex++) {
+                if (pile[vertex] > limits[vertex]) {
+                    return false;
+                }
                 code |= pile[vertex] << shifts[vertex];
             }
             return isMarked(code);
@@ -941,7 +938,8 @@ public final class PebbleProofs {
 
         // A pile fails only if it fails with a pebble less, so each failing pile comes of one with
         // a pebble less; and after a move it is one of those that were found a round before.
-        private void collect(int[] row) {
+        void collect(Board board, int[] row) {
+            clear(board);
             row[0] = 0;
             mark(0);
             int from = 0;
@@ -987,20 +985,16 @@ public final class PebbleProofs {
             return end;
         }
 
-        private boolean hasRoom(int code, int vertex) {
-            return pebblesOn(code, vertex) + 1 < 1 << widths[vertex];
-        }
-
         private boolean fails(int code) {
             for (int vertex = 0; vertex < vertices; vertex++) {
-                if (pebblesOn(code, vertex) >= 2 && !failsAfterMoveFrom(code, vertex)) {
+                if (pebblesOn(code, vertex) >= 2 && !failsAfterMoveFrom(vertex, code)) {
                     return false;
                 }
             }
             return true;
         }
 
-        private boolean failsAfterMoveFrom(int code, int vertex) {
+        private boolean failsAfterMoveFrom(int vertex, int code) {
             int less = code - (2 << shifts[vertex]);
             for (int other = 0; other < vertices; other++) {
                 if ((near[vertex] >> other & 1) != 0
@@ -1169,13 +1163,9 @@ public final class PebbleProofs {
 
         // -- tokens
 
-        private boolean isBetween(int place, int low, int high) {
-            return place < length && bytes[place] >= low && bytes[place] <= high;
-        }
-
         private int endOfRun(int low, int high) {
             int place = start;
-            while (place < length && isBetween(place, low, high)) {
+            while (place < length && bytes[place] >= low && bytes[place] <= high) {
                 place++;
             }
             return place;
@@ -1184,20 +1174,20 @@ public final class PebbleProofs {
         private void readToken() {
             start = stop;
             start = endOfRun(' ', ' ');
+            int letters = endOfRun('a', 'z');
+            int digits = endOfRun('0', '9');
+            stop = Math.max(letters, digits);
             if (start >= length) {
                 kind = END;
-                stop = start;
-            } else if (isBetween(start, 'a', 'z')) {
+            } else if (letters > start) {
                 kind = WORD;
-                stop = endOfRun('a', 'z');
-            } else if (isBetween(start, '0', '9')) {
+            } else if (digits > start) {
                 kind = NUMBER;
-                stop = endOfRun('0', '9');
                 value = numberRead();
             } else {
                 kind = SIGN;
-                stop = start + 1;
                 value = bytes[start];
+                stop = start + 1;
             }
         }
 
@@ -1244,20 +1234,12 @@ public final class PebbleProofs {
         int check() {
             stop = 0;
             readToken();
-            return readStatements() ? NONE : start;
-        }
-
-        private boolean readStatements() {
-            if (!readVertices()) {
-                return false;
-            }
-            for (int i = 0; i < MOST_BYTES && isSemicolon(); i++) {
+            boolean fits = readVertices();
+            for (int i = 0; i < MOST_BYTES && fits && isSemicolon(); i++) {
                 readToken();
-                if (!readStatement()) {
-                    return false;
-                }
+                fits = readStatement();
             }
-            return kind == END && draft.isConnected();
+            return fits && kind == END && draft.isConnected() ? NONE : start;
         }
 
         private boolean readVertices() {
