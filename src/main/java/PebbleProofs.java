@@ -948,19 +948,11 @@ public final class PebbleProofs {
                 howMany[pebbles] = to - from;
                 leastNumber = pebbles + 1;
                 worstCount = to - from;
-                firstWorst = least(row, from, to);
+                firstWorst = row[from];
                 int end = extend(row, from, to);
                 from = to;
                 to = end;
             }
-        }
-
-        private static int least(int[] row, int from, int to) {
-            int found = row[from];
-            for (int i = from + 1; i < to; i++) {
-                found = Math.min(found, row[i]);
-            }
-            return found;
         }
 
         /** Puts the failing piles with a pebble more behind those from 'from' to 'to'. */
@@ -968,8 +960,9 @@ public final class PebbleProofs {
             int end = to;
             for (int i = from; i < to; i++) {
                 int code = row[i];
-                // Only the last vertex with pebbles and those behind it get one more, so that no
-                // pile is found twice.
+                // Only the last vertex with pebbles and those behind it get one more, the last
+                // vertex of all first: so no pile is found twice, and those with as many pebbles
+                // stand in lexicographic order.
                 for (int vertex = vertices - 1; vertex >= 0; vertex--) {
                     int larger = code + (1 << shifts[vertex]);
                     if (hasRoom(code, vertex) && end < row.length && fails(larger)) {

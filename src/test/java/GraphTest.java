@@ -120,6 +120,15 @@ public final class GraphTest {
         Checks.due("moves(2) without pebbles", x.moves(2), 0);
         x.addEdge(0, 1);
         Checks.due("moves(0)", x.moves(0), 2);
+        PebbleProofs path = Checks.made("vertices 6;edge 0 1 2 3 4 5;pile 0 2;pile 1 2;pile 4 3;pile 5 9");
+        int[] onPath = {1, 2, 0, 0, 2, 1};
+        PebbleProofs ring = Checks.made("vertices 6;edge 1 3 0 2 4 5 1;edge 0 5;pile 0 2;pile 1 2;pile 4 3;pile 5 9");
+        int[] onRing = {3, 2, 0, 0, 2, 3};
+        for (int v = 0; v < 6; v++) {
+            int vertex = v;
+            Checks.call("moves(" + v + ") of six", () -> path.moves(vertex), onPath[v]);
+            Checks.call("moves(" + v + ") of six", () -> ring.moves(vertex), onRing[v]);
+        }
         Checks.due("moves(0) of one vertex", Checks.made("vertices 1;pile 0 9").moves(0), 0);
         Checks.due("the last one counts", Checks.made("vertices 1;pile 0 9;pile 0 3").pebbles(0), 3);
     }

@@ -48,8 +48,13 @@ public final class InputTest {
         Checks.due("append of nothing", x.append(0, 0, 0, 0, 0), 390);
         Checks.argument("truncate(391)", () -> x.truncate(391));
         Checks.due("append of ten to 390", x.append(0x61, 0x6100, FOUR, FOUR, 0), 400);
-        Checks.state("append of one to 400", () -> x.append(0, 0, 0, 0, 1));
-        Checks.state("append of one to 400", () -> x.append(0x80000000, 0, 0, 0, 0));
+        for (int one : new int[] {1, 0x100, 0x10000, 0x1000000, 0x80000000, 255}) {
+            Checks.state("append of one to 400", () -> x.append(one, 0, 0, 0, 0));
+            Checks.state("append of one to 400", () -> x.append(0, one, 0, 0, 0));
+            Checks.state("append of one to 400", () -> x.append(0, 0, one, 0, 0));
+            Checks.state("append of one to 400", () -> x.append(0, 0, 0, one, 0));
+            Checks.state("append of one to 400", () -> x.append(0, 0, 0, 0, one));
+        }
         Checks.due("append of nothing to 400", x.append(0, 0, 0, 0, 0), 400);
         Checks.due("no refusal", x.reason(), 0);
         Checks.due("no change", x.undoCount(), 0);
@@ -104,6 +109,12 @@ public final class InputTest {
         error("vertices;", 8);
         error("vertice 1", 0);
         error("verticess 1", 0);
+        error("wertices 1", 0);
+        error("verticez 1", 0);
+        error("vertices 2;adge 0 1", 11);
+        error("vertices 1;tile 0 1", 11);
+        error("vertices 1;strategx 0", 11);
+        error("vertices 1;atrategy 0", 11);
         error("Vertices 1", 0);
         error("verticeS 1", 0);
         error("1", 0);
@@ -228,6 +239,15 @@ public final class InputTest {
         Checks.argument("truncate(1)", () -> x.truncate(1));
         Checks.due("the buffer is empty", x.append(0, 0, 0, 0, 0), 0);
         Checks.argument("load() of nothing", () -> x.load());
+        // Nothing stays of a text that was read before.
+        Checks.type(x, "vertices 4;edge 0 1 2 3;pile 0 9;pile 3 9;strategy 0 1 0 4;strategy 1;pile 9 9");
+        Checks.due("errorPosition()", x.errorPosition(), 75);
+        x.truncate(23);
+        Checks.due("load()", x.load(), 4);
+        Checks.due("after load()", Checks.view(x),
+                "4 3 0 0 0 3 ; 0 near 0 1 0 0; 0 near 1 0 1 0; 0 near 0 1 0 1; 0 near 0 0 1 0");
+        x.addStrategy(0);
+        Checks.due("parent", x.strategy(0, 1, 2), -1);
         Checks.due("six vertices", Checks.made("vertices 6;edge 5 4 3 2 1 0").count(5), 5);
         Checks.due("one vertex", Checks.made("vertices 1").count(0), 1);
     }

@@ -57,6 +57,9 @@ public final class TargetsTest {
         Checks.call("next(2)", () -> x.next(2), 1);
         Checks.call("next(1)", () -> x.next(1), 1);
         Checks.noElement("next(0), which has a pebble", () -> x.next(0));
+        x.put(1, 1);
+        Checks.noElement("next(1), which has one pebble", () -> x.next(1));
+        x.undo();
         x.take(0, 1);
         Checks.noElement("next(2), which cannot be reached", () -> x.next(2));
         Checks.due("undoCount()", x.undoCount(), 1);
