@@ -285,6 +285,16 @@ public final class ChangesTest {
         Checks.due("count(4)", x.count(4), 4);
         Checks.due("weight", x.strategy(0, 1, 1), 10);
         Checks.due("no refusal", x.reason(), 0);
+        // Six strategies of six vertices.
+        PebbleProofs y = Checks.made("vertices 6;edge 0 1 2 3 4 5" + ";strategy 5 0 1 2 4 5 9".repeat(6));
+        y.weigh(5, 0, 4, 33);
+        y.weigh(5, 4, 3, 34);
+        Checks.call("dropStrategy(0)", () -> y.dropStrategy(0), 5);
+        Checks.due("weight", y.strategy(4, 0, 1), 33);
+        Checks.due("weight", y.strategy(4, 4, 1), 34);
+        Checks.due("weight", y.strategy(3, 0, 1), 2);
+        Checks.call("dropStrategy(4)", () -> y.dropStrategy(4), 4);
+        Checks.due("weight", y.strategy(3, 4, 1), 9);
     }
 
     public static void main(String[] args) {
