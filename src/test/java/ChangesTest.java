@@ -193,9 +193,12 @@ public final class ChangesTest {
             int step = y.next(target);
             y.move(step / 10, step % 10);
             made++;
+            // An object is used for at most 512 calls.
+            y = made % 100 == 0 ? Checks.made(Checks.text(y)) : y;
         }
         Checks.due("reach() in " + text, x.reach(target), made);
-        Checks.due("reach() in " + text, Checks.view(x), Checks.view(y));
+        Checks.due("moves of reach() in " + text, x.count(3), made);
+        Checks.due("reach() in " + text, Checks.text(x), Checks.text(y));
         Checks.due("undo()", x.undo(), 0);
         Checks.due("undo() of reach()", Checks.view(x), Checks.view(Checks.made(text)));
     }

@@ -5,6 +5,7 @@ import java.util.concurrent.Callable;
 final class Checks {
     private static int checked = 0;
     private static int wrong = 0;
+    private static String heading = "";
 
     private Checks() {
     }
@@ -13,8 +14,13 @@ final class Checks {
         checked++;
         if (!got.equals(want)) {
             wrong++;
-            System.out.println(call + " answered " + got + ", due is " + want);
+            System.out.println(heading + call + " answered " + got + ", due is " + want);
         }
+    }
+
+    /** What stands before each wrong answer from now on. */
+    static void heading(String text) {
+        heading = text + "\n    ";
     }
 
     /** What a call answers: its value, or the simple name of the exception that it throws. */
@@ -64,6 +70,18 @@ final class Checks {
         return length;
     }
 
+    /** A new object with a text in its input buffer. */
+    static PebbleProofs typed(String text) {
+        PebbleProofs x = new PebbleProofs();
+        type(x, text);
+        return x;
+    }
+
+    /** The length of the input buffer. */
+    static int length(PebbleProofs x) {
+        return x.append(0, 0, 0, 0, 0);
+    }
+
     static PebbleProofs made(String text) {
         PebbleProofs x = new PebbleProofs();
         x.truncate(0);
@@ -73,9 +91,31 @@ final class Checks {
     }
 
     static int errorIn(String text) {
-        PebbleProofs x = new PebbleProofs();
-        type(x, text);
-        return x.errorPosition();
+        return typed(text).errorPosition();
+    }
+
+    /** The setup text of a path of all vertices. */
+    static String path(int vertices) {
+        StringBuilder text = new StringBuilder("vertices " + vertices);
+        for (int v = 0; v < vertices && vertices > 1; v++) {
+            text.append(v == 0 ? ";edge 0" : " " + v);
+        }
+        return text.toString();
+    }
+
+    /** The setup text of the graph and the pile of an object. */
+    static String text(PebbleProofs x) {
+        int n = x.count(0);
+        StringBuilder all = new StringBuilder("vertices " + n);
+        for (int v = 0; v < n; v++) {
+            all.append(";pile ").append(v).append(' ').append(x.pebbles(v));
+            for (int w = 0; w < v; w++) {
+                if (x.isEdge(v, w)) {
+                    all.append(";edge ").append(v).append(' ').append(w);
+                }
+            }
+        }
+        return all.toString();
     }
 
     /** Everything that a call can ask without changing, as one text. */

@@ -1,6 +1,3 @@
-import java.util.ArrayList;
-import java.util.List;
-
 /** Promises 15 to 19: undo, the saved copy, and the reason of the last refusal. */
 public final class HistoryTest {
     private HistoryTest() {
@@ -22,23 +19,33 @@ public final class HistoryTest {
         }
     }
 
-    /** Promises 15 and 16: each kind of change, forth and back. */
-    private static void eachKind() {
+    /** A new object for each question, as one is used for at most 512 calls. */
+    private static PebbleProofs changed(int changes) {
         PebbleProofs x = Checks.made("vertices 4;edge 0 1 2 3;pile 3 2");
-        List<String> views = new ArrayList<>();
-        for (int which = 0; which < 11; which++) {
-            views.add(Checks.view(x));
+        for (int which = 0; which < changes; which++) {
             change(x, which);
             Checks.due("undoCount()", x.undoCount(), Math.min(10, which + 1));
         }
-        for (int which = 10; which >= 1; which--) {
-            Checks.due("undo()", x.undo(), which - 1);
-            Checks.due("undoCount()", x.undoCount(), which - 1);
-            Checks.due("after undo() of " + which, Checks.view(x), views.get(which));
+        return x;
+    }
+
+    /** Promises 15 and 16: each kind of change, forth and back. */
+    private static void eachKind() {
+        for (int undone = 1; undone <= 10; undone++) {
+            PebbleProofs x = changed(11);
+            for (int left = 9; left >= 10 - undone; left--) {
+                Checks.due("undo()", x.undo(), left);
+                Checks.due("undoCount()", x.undoCount(), left);
+            }
+            Checks.due("after undo() of " + undone, Checks.view(x), Checks.view(changed(11 - undone)));
         }
-        Checks.state("an eleventh undo()", () -> x.undo());
-        Checks.due("nothing changed", Checks.view(x), views.get(1));
-        Checks.due("reason() stays", x.reason(), 0);
+        PebbleProofs y = changed(11);
+        for (int i = 0; i < 10; i++) {
+            y.undo();
+        }
+        Checks.state("an eleventh undo()", () -> y.undo());
+        Checks.due("nothing changed", Checks.view(y), Checks.view(changed(1)));
+        Checks.due("reason() stays", y.reason(), 0);
     }
 
     /** Promise 15: changes after an undo, and more than ten of them. */

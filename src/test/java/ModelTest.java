@@ -77,11 +77,11 @@ public final class ModelTest {
     }
 
     private int anyVertex() {
-        return below(40) == 0 ? pick(-1, 6, 7, Integer.MIN_VALUE, Integer.MAX_VALUE) : below(real.count(0));
+        return below(40) == 0 ? pick(-1, 6, 7, Integer.MIN_VALUE, Integer.MAX_VALUE) : below(model.count(0));
     }
 
     private int anyStrategy() {
-        int there = real.count(4);
+        int there = model.count(4);
         return below(20) == 0 || there == 0 ? pick(-1, there, 6, Integer.MAX_VALUE) : below(there);
     }
 
@@ -170,20 +170,17 @@ public final class ModelTest {
     private static void checkTexts(int seed) {
         Random random = new Random(seed);
         Model model = new Model();
-        PebbleProofs real = new PebbleProofs();
         for (int i = 0; i < 40; i++) {
             String text = SetupTexts.valid(random);
             if (i % 4 > 0) {
                 text = SetupTexts.spoiled(text, random);
             }
             if (text.length() <= 400) {
-                real.truncate(0);
-                Checks.type(real, text);
                 model.truncate(0);
                 for (int k = 0; k < text.length(); k++) {
                     model.append(text.charAt(k), 0, 0, 0, 0);
                 }
-                Checks.due("errorPosition of " + text, real.errorPosition(), model.errorPosition());
+                Checks.due("errorPosition of " + text, Checks.errorIn(text), model.errorPosition());
             }
         }
     }

@@ -153,47 +153,39 @@ public final class WorstPilesTest {
         }
     }
 
-    private static String told(PebbleProofs x) {
+    private static String told(PebbleProofs x, int target) {
         StringBuilder all = new StringBuilder("reached " + x.reachable() + ", greatest " + x.graphNumber());
-        for (int v = 0; v < x.count(0); v++) {
-            all.append("; ").append(x.number(v)).append(' ').append(x.worstPiles(v)).append(Arrays.toString(worst(x, v)));
-            for (int k = 0; k < 33; k++) {
-                all.append(' ').append(x.failing(v, k));
-            }
+        all.append("; ").append(x.number(target)).append(' ').append(x.worstPiles(target));
+        all.append(Arrays.toString(worst(x, target)));
+        for (int k = 0; k < 33; k += 2) {
+            all.append(' ').append(x.failing(target, k));
         }
         return all.toString();
     }
 
-    private static String text(PebbleProofs x) {
+    private static void comeAndGo(PebbleProofs x, Random random) {
         int n = x.count(0);
-        StringBuilder all = new StringBuilder("vertices " + n);
-        for (int v = 0; v < n; v++) {
-            all.append(";pile ").append(v).append(' ').append(x.pebbles(v));
-            for (int w = 0; w < v; w++) {
-                if (x.isEdge(v, w)) {
-                    all.append(";edge ").append(v).append(' ').append(w);
-                }
-            }
+        for (int i = 0; i < 5; i++) {
+            int v = random.nextInt(n);
+            int w = random.nextInt(n);
+            Checks.answer(() -> x.isEdge(v, w) ? x.removeEdge(v, w) : x.addEdge(v, w));
+            int p = random.nextInt(n);
+            Checks.answer(() -> x.pebbles(p) > 2 ? x.take(p, 3) : x.put(p, 1));
+            int target = random.nextInt(n);
+            String text = Checks.text(x);
+            Checks.due("told of " + target + " in " + text, told(x, target), told(Checks.made(text), target));
         }
-        return all.toString();
     }
 
     /** Promises 26, 27, 31 to 35: while edges come and go, the same as of a new object. */
     private static void edgesComeAndGo() {
         Random random = new Random(3);
         for (int n = 3; n <= 6; n++) {
-            StringBuilder start = new StringBuilder("vertices " + n + ";edge 0");
-            for (int v = 1; v < n; v++) {
-                start.append(' ').append(v);
-            }
-            PebbleProofs x = Checks.made(start.toString());
-            for (int i = 0; i < 120; i++) {
-                int v = random.nextInt(n);
-                int w = random.nextInt(n);
-                Checks.answer(() -> x.isEdge(v, w) ? x.removeEdge(v, w) : x.addEdge(v, w));
-                int p = random.nextInt(n);
-                Checks.answer(() -> x.pebbles(p) > 2 ? x.take(p, 3) : x.put(p, 1));
-                Checks.due("told of " + text(x), told(x), told(Checks.made(text(x))));
+            String text = Checks.path(n);
+            for (int i = 0; i < 60; i++) {
+                PebbleProofs x = Checks.made(text);
+                comeAndGo(x, random);
+                text = Checks.text(x);
             }
         }
     }
