@@ -56,6 +56,50 @@ final class Checks {
         call(call, what, "NoSuchElementException");
     }
 
+    /** A refused change, and the reason that is told then. */
+    static void refused(String call, PebbleProofs x, Callable<?> what, int reason) {
+        state(call, what);
+        due("reason() behind " + call, x.reason(), reason);
+    }
+
+    /** A call with the number of a vertex, or of a strategy. */
+    interface Numbered {
+        Object of(PebbleProofs x, int number);
+    }
+
+    private static int[] outside(int many) {
+        return new int[] {-1, many, many + 1, 6, 7, 64, 256, Integer.MIN_VALUE, Integer.MAX_VALUE};
+    }
+
+    private static void numbers(String call, String text, int many, Numbered what) {
+        for (int number : outside(many)) {
+            if (number < 0 || number >= many) {
+                PebbleProofs x = made(text);
+                bounds(call + " with " + number + " of " + many, () -> what.of(x, number));
+            }
+        }
+        for (int number = 0; number < many; number++) {
+            int inside = number;
+            PebbleProofs x = made(text);
+            Object got = answer(() -> what.of(x, inside));
+            due(call + " with " + number + " of " + many, got.equals("IndexOutOfBoundsException"), false);
+        }
+    }
+
+    /** With 1 to 6 vertices, those that exist are taken and no others. */
+    static void vertices(String call, Numbered what) {
+        for (int n = 1; n <= 6; n++) {
+            numbers(call, path(n) + ";strategy 0;pile 0 3", n, what);
+        }
+    }
+
+    /** With 0 to 6 strategies, those that exist are taken and no others. */
+    static void strategies(String call, Numbered what) {
+        for (int many = 0; many <= 6; many++) {
+            numbers(call, path(3) + ";strategy 0".repeat(many), many, what);
+        }
+    }
+
     /** Appends a text, twenty bytes a call. */
     static int type(PebbleProofs x, String text) {
         byte[] bytes = text.getBytes(StandardCharsets.ISO_8859_1);
