@@ -443,6 +443,14 @@ final class SentencesOfChanges {
         Checks.due("reach(0)", has.reach(0), 1);
         Checks.due("reach(0) of one vertex", Checks.made("vertices 1;pile 0 1").reach(0), 0);
         Checks.due("reach(5)", Checks.made(Checks.path(6) + ";pile 0 32").reach(5), 31);
+        Checks.due("reach(0)", Checks.made(Checks.path(6) + ";pile 5 32").reach(0), 31);
+        // It moves forth and back until 1 and 2 pebbles are left, of which only those on 1 reach the target.
+        PebbleProofs most = Checks.made("vertices 3;edge 0 1 2;pile 0 998;pile 1 999");
+        Checks.due("reach(2) by the most moves", most.reach(2), 1995);
+        Checks.due("count(3)", most.count(3), 1995);
+        Checks.due("pebbles(0)", most.pebbles(0), 1);
+        Checks.due("pebbles(1)", most.pebbles(1), 0);
+        Checks.due("pebbles(2)", most.pebbles(2), 1);
     }
 
     private static void reachRefused() {
@@ -569,6 +577,21 @@ final class SentencesOfChanges {
             Checks.due("the others", Checks.view(x), Checks.view(Checks.made(left.toString())));
             Checks.due("undoCount()", x.undoCount(), 1);
         }
+
+        // Six strategies of six vertices.
+        StringBuilder full = new StringBuilder(Checks.path(6));
+        StringBuilder behind = new StringBuilder(Checks.path(6));
+        for (int i = 0; i < 6; i++) {
+            StringBuilder one = new StringBuilder(";strategy 3");
+            for (int v = 0; v < 6; v++) {
+                one.append(v == 3 ? "" : " " + v + " " + i + " " + (10 * i + v));
+            }
+            full.append(one);
+            behind.append(i == 0 ? "" : one);
+        }
+        PebbleProofs six = Checks.made(full.toString());
+        six.dropStrategy(0);
+        Checks.due("five of six", Checks.view(six), Checks.view(Checks.made(behind.toString())));
 
         Sentences.say("Returns the number of strategies afterwards.");
         PebbleProofs y = Checks.made(start + String.join("", all));

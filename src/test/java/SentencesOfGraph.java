@@ -205,6 +205,17 @@ final class SentencesOfGraph {
         Checks.due("moves(0) of one vertex", Checks.made("vertices 1;pile 0 999").moves(0), 0);
         Checks.due("moves(0) of all edges", Checks.made(COMPLETE + ";pile 0 2").moves(0), 5);
 
+        String piles = ";pile 0 2;pile 1 2;pile 2 1;pile 4 3;pile 5 9";
+        PebbleProofs path = Checks.made(Checks.path(6) + piles);
+        PebbleProofs ring = Checks.made("vertices 6;edge 1 3 0 2 4 5 1;edge 0 5" + piles);
+        int[] onPath = {1, 2, 0, 0, 2, 1};
+        int[] onRing = {3, 2, 0, 0, 2, 3};
+        for (int v = 0; v < 6; v++) {
+            int vertex = v;
+            Checks.call("moves(" + v + ") on a path", () -> path.moves(vertex), onPath[v]);
+            Checks.call("moves(" + v + ") on a ring", () -> ring.moves(vertex), onRing[v]);
+        }
+
         Sentences.say("if it has at least 2 pebbles, otherwise 0.");
         for (int has = 0; has < 5; has++) {
             PebbleProofs y = Checks.made("vertices 3;edge 1 0 2;pile 0 " + has);

@@ -91,10 +91,30 @@ final class SentencesOfInput {
         }
     }
 
+    /** Each letter of a word that begins a statement counts. */
+    private static void eachLetter(String before, String word, String behind) {
+        error(before + word + behind, -1);
+        for (int i = 0; i < word.length(); i++) {
+            String left = word.substring(0, i);
+            String right = word.substring(i + 1);
+            for (char letter : new char[] {'a', 'm', 'z', (char) (word.charAt(i) + 1), (char) (word.charAt(i) - 1)}) {
+                if (letter != word.charAt(i) && letter >= 'a' && letter <= 'z') {
+                    error(before + left + letter + right + behind, before.length());
+                }
+            }
+            error(before + left + right + behind, before.length());
+            error(before + left + Character.toUpperCase(word.charAt(i)) + right + behind, before.length());
+        }
+    }
+
     private static void tokens() {
         Sentences.say("Tokens are words (maximal runs of letters a to z), numbers (maximal runs of digits,",
                 "and single other bytes.");
         eachByte();
+        eachLetter("", "vertices", " 1");
+        eachLetter("vertices 2;", "edge", " 0 1");
+        eachLetter("vertices 1;", "pile", " 0 1");
+        eachLetter("vertices 1;", "strategy", " 0");
         valid("vertices1;pile0 1", "vertices1;strategy0", "vertices2;edge0 1;strategy0 1 0 1");
         error("verticess 1", 0);
         error("vertice 1", 0);
@@ -467,6 +487,17 @@ final class SentencesOfInput {
                         () -> x.append(words[0], words[1], words[2], words[3], words[4]), due);
             }
         }
+
+        PebbleProofs full = Checks.typed(" ".repeat(400));
+        for (int one = 1; one < 256; one += one < 8 || one > 246 ? 1 : 7) {
+            int low = one;
+            Checks.state("append of a byte " + one + " to 400", () -> full.append(low, 0, 0, 0, 0));
+            Checks.state("append of a byte " + one + " to 400", () -> full.append(0, low << 8, 0, 0, 0));
+            Checks.state("append of a byte " + one + " to 400", () -> full.append(0, 0, low << 16, 0, 0));
+            Checks.state("append of a byte " + one + " to 400", () -> full.append(0, 0, 0, low << 24, 0));
+            Checks.state("append of a byte " + one + " to 400", () -> full.append(0, 0, 0, 0, low << 8 * (low % 4)));
+        }
+        Checks.due("the length stays", Checks.length(full), 400);
 
         Sentences.say("(nothing is appended then)");
         PebbleProofs x = Checks.typed("vertices 1" + " ".repeat(371));

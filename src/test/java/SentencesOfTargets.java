@@ -424,7 +424,24 @@ final class SentencesOfTargets {
         x.put(1, 1);
         Checks.due("ahead() with 15", x.ahead(), -1);
         x.move(0, 1);
-        Checks.due("ahead() with 14", x.ahead() > 1, true);
+        Checks.due("ahead() with 14", x.ahead(), Checks.made(Checks.text(x)).ahead());
+        // Asked again when there are more or fewer piles, and with other edges.
+        PebbleProofs y = Checks.made("vertices 3;edge 0 1 2;pile 0 4");
+        Checks.due("ahead()", y.ahead(), 5);
+        y.addEdge(0, 2);
+        Checks.due("ahead() behind an edge", y.ahead(), 9);
+        Checks.call("fewest(2) behind an edge", () -> y.fewest(2), 1);
+        y.undo();
+        Checks.due("ahead() behind undo()", y.ahead(), 5);
+        Checks.call("fewest(2) behind undo()", () -> y.fewest(2), 3);
+        y.put(0, 10);
+        Checks.due("ahead() of more", y.ahead(), Checks.made("vertices 3;edge 0 1 2;pile 0 14").ahead());
+        y.take(0, 12);
+        Checks.due("ahead() of less", y.ahead(), 2);
+        Checks.call("lacking() of less", () -> y.lacking(), 2);
+        y.take(0, 1);
+        Checks.due("ahead() of one pebble", y.ahead(), 1);
+        Checks.noElement("fewest(1) of one pebble", () -> y.fewest(1));
     }
 
     private static int most(int[] pile, int vertex, int left, int highest) {
@@ -527,6 +544,16 @@ final class SentencesOfTargets {
         Checks.due("failing(5, 32)", Checks.made(Checks.path(6)).failing(5, 32), 0);
         Checks.due("the failing piles of the last of a path", allFailing(Checks.path(6), 5), 1626);
         mostFailing();
+        // Asked again with other edges.
+        PebbleProofs y = Checks.made("vertices 3;edge 0 1 2");
+        int[][] due = {{1, 2, 2, 1, 0}, {1, 2, 1, 0, 0}, {1, 2, 2, 1, 0}};
+        for (int[] many : due) {
+            for (int k = 0; k < many.length; k++) {
+                Checks.due("failing(2, " + k + ")", y.failing(2, k), many[k]);
+            }
+            Checks.due("number(2)", y.number(2), many[3] == 0 ? 3 : 4);
+            Checks.answer(() -> y.isEdge(0, 2) ? y.removeEdge(2, 0) : y.addEdge(0, 2));
+        }
 
         Sentences.say("- `target`: number of a vertex",
                 "Throws `IndexOutOfBoundsException` if there is no such vertex (checked first)");
