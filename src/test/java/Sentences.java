@@ -74,8 +74,4 @@ final class Sentences {
             }
         });
     }
-
-    public static void main(String[] args) {
-        PARTS.forEach((name, sentences) -> sentences.forEach(s -> System.out.println(name + " | " + s)));
-    }
 }

@@ -555,6 +555,16 @@ final class SentencesOfTargets {
             Checks.answer(() -> y.isEdge(0, 2) ? y.removeEdge(2, 0) : y.addEdge(0, 2));
         }
 
+        PebbleProofs ring = Checks.made(Checks.path(6));
+        Checks.due("failing(5, 7) of a path", ring.failing(5, 7) > ring.failing(5, 31), true);
+        ring.addEdge(0, 5);
+        PebbleProofs same = Checks.made("vertices 6;edge 0 1 2 3 4 5 0");
+        for (int k = 0; k < 40; k++) {
+            Checks.due("failing(5, " + k + ") of a ring", ring.failing(5, k), same.failing(5, k));
+        }
+        ring.put(2, 8);
+        Checks.due("isReachable(5) in a ring", ring.isReachable(5), true);
+
         Sentences.say("- `target`: number of a vertex",
                 "Throws `IndexOutOfBoundsException` if there is no such vertex (checked first)");
         for (int pebbles : new int[] {0, -1, 99, 100}) {
